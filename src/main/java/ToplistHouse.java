@@ -516,12 +516,14 @@ public final class ToplistHouse {
 
         private Rows() {
             for (int row = 0; row < ROWS; row++) {
-                Arrays.fill(marks[row], NONE);
-                Arrays.fill(things[row], NONE);
-                Arrays.fill(places[row], NONE);
+                for (int thing = 0; thing < THINGS; thing++) {
+                    marks[row][thing] = NONE;
+                    things[row][thing] = NONE;
+                    places[row][thing] = NONE;
+                    firstPlaces[thing] = THINGS;
+                }
                 weights[row] = 1;
             }
-            Arrays.fill(firstPlaces, THINGS);
         }
 
         private void copyFrom(Rows other) {
@@ -1220,7 +1222,9 @@ public final class ToplistHouse {
         private int allLess = 0;
 
         private Numbers() {
-            Arrays.fill(counterNumbers, NONE);
+            for (int i = 0; i < MOST_COUNTERS; i++) {
+                counterNumbers[i] = NONE;
+            }
         }
 
         private void copyFrom(Numbers other) {

@@ -215,10 +215,21 @@ public final class ChangesTest {
             house.undo();
             Check.due("9 change " + i + " undone", () -> Look.at(house), before);
         }
-        Check.due("9 width and costs are back", () -> house.push(1) * 1000 + house.setCosts(0, 0), 7101);
+        Check.due("9 the window's number and costs are back", () -> house.push(1) * 1000 + house.setCosts(0, 0), 7101);
         Check.due("9 all numbers are back", () -> house.setWindow(1, 1), 7);
         house.undo();
         Check.due("9 counters are back", () -> house.counted(3) + 10 * house.bound(), 20);
+        widthAndCountersAreBack();
+    }
+
+    private static void widthAndCountersAreBack() {
+        ToplistHouse house = new ToplistHouse();
+        house.push(1);
+        house.push(2);
+        house.setWindow(1, 4);
+        house.undo();
+        Check.due("9 width is back", () -> house.push(3), ToplistHouse.NONE);
+        Check.due("9 the number of counters is back", house::bound, 1);
     }
 
     private static void refusedChangesAreNotUndone() {

@@ -19,6 +19,7 @@ public final class MergingTest {
         ToplistHouse house = new ToplistHouse();
         int[] things = {2, 0, 1, 1, 2, 2, 0, 4, 0, 3};
         int[] rows = {2, 0, 1, 0, 1, 0, 2, 2, 1, 0};
+        Check.due("30 the first call of a house", () -> new ToplistHouse().mergedRow(0), 2);
         Check.due("28 count", house::mergedCount, 10);
         for (int place = 0; place < 10; place++) {
             int p = place;

@@ -137,9 +137,20 @@ public final class NumbersTest {
             Check.due("43 anew " + n, () -> house.counted(n), 0);
             Check.due("44 anew " + n, () -> house.came(n), 0);
         }
+        house.push(8);
+        house.push(9);
+        Check.due("43 both counters are free anew", () -> house.counted(8) * 10 + house.counted(9), 11);
+        Check.due("45 both counters are free anew", house::bound, 0);
+        Check.due("44 the greatest number", () -> pushed(99, 0, 99).came(99), 2);
+        house.undo();
+        house.undo();
         house.undo();
         hasWindow("back", house, 7, 6, 5, 4, 3);
         Check.due("45 back", house::bound, 2);
+        ToplistHouse twice = pushed(6, 6, 5);
+        twice.setWindow(5, 2);
+        twice.push(4);
+        Check.due("43 counts from 0 anew", () -> twice.counted(4), 1);
         Check.due("43 back", () -> house.counted(7), 1);
         Check.due("44 back", () -> house.came(1), 1);
     }

@@ -51,6 +51,9 @@ public final class PairsTest {
         Check.refused("47 rank 9", house, () -> house.pairPlace(2, 2, 9, false), INDEX);
         hasPair(Houses.of(4, 19, 99), 4, 4, 0, new int[] {198, 0, 0});
         hasPair(Houses.of(4, 19, 0), 4, 4, 0, new int[] {0, 0, 0});
+        ToplistHouse least = Houses.of(4, 19, 5, 4, 3, 0);
+        hasPair(least, 4, 4, 0, new int[] {10, 0, 0});
+        hasPair(least, 4, 4, 3, new int[] {0, 1, 1});
     }
 
     private static void pairsOfSameSums() {

@@ -268,6 +268,9 @@ public final class ReadingTest {
         // 0 has the lower bound 60 and the upper bound 60, as it has an item in both rows.
         ToplistHouse same = Houses.of(0, 9, 60, 0, 0, 40, 0, 5, 1, 1, 0, 20, 1, 1, 1, 1, 2, 1);
         Check.due("25 the one with the greater upper bound must be among them", () -> same.plainDepth(1), 2);
+        // The same with the things 0 and 9 exchanged.
+        ToplistHouse turned = Houses.of(0, 0, 60, 0, 9, 40, 0, 5, 1, 1, 9, 20, 1, 1, 1, 1, 2, 1);
+        Check.due("25 also if it is the lesser thing", () -> turned.plainDepth(1), 2);
         Check.due("25 lower bound of 9", () -> same.lower(9, 2), 60);
         Check.due("25 upper bound of 9", () -> same.upper(9, 2), 61);
         Check.due("25 lower bound of 0", () -> same.lower(0, 2), 60);

@@ -503,9 +503,11 @@ public final class ToplistHouse {
 
     /** The rows, kept sorted, with their weights and the rule. */
     private static final class Rows {
+        /** By row and thing; NONE without an item, so are the places. */
         private final int[][] marks = new int[ROWS][THINGS];
-        private final int[][] things = new int[ROWS][THINGS];
         private final int[][] places = new int[ROWS][THINGS];
+        /** By row and place; NONE behind the last item. */
+        private final int[][] things = new int[ROWS][THINGS];
         private final int[] sizes = new int[ROWS];
         private final int[] weights = new int[ROWS];
         /** The least place of each thing in any row; THINGS, behind all places, if it is not known. */
@@ -773,8 +775,10 @@ public final class ToplistHouse {
 
     /** The known things and their values, the best ones first. */
     private static final class Ranking {
+        /** By thing; NONE if it is not known, so are the ranks. */
         private final int[] values = new int[THINGS];
         private final int[] ranks = new int[THINGS];
+        /** By rank; NONE behind the last one. */
         private final int[] things = new int[THINGS];
         private int count = 0;
 
@@ -845,6 +849,7 @@ public final class ToplistHouse {
 
     /** Finds for each k the depth at which a way of reading stops. */
     private static final class Reader {
+        /** By k, which begins with 1, so are the plain ones. */
         private final int[] stops = new int[THINGS + 1];
         private final int[] plainStops = new int[THINGS + 1];
         /** The bounds of the things that have been read, the greatest lower ones first. */

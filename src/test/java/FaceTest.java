@@ -65,7 +65,7 @@ public final class FaceTest {
 
     public static void main(String[] args) throws ReflectiveOperationException {
         Class<ToplistHouse> house = ToplistHouse.class;
-        Check.isTrue("public and final", Modifier.isPublic(house.getModifiers()) && Modifier.isFinal(house.getModifiers()));
+        Check.due("the class", () -> Modifier.toString(house.getModifiers()), "public final");
         constants(house);
         constructor(house);
         methods(house);

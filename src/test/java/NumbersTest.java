@@ -16,14 +16,6 @@ public final class NumbersTest {
         Check.finish();
     }
 
-    private static ToplistHouse pushed(int... numbers) {
-        ToplistHouse house = new ToplistHouse();
-        for (int number : numbers) {
-            house.push(number);
-        }
-        return house;
-    }
-
     private static void hasWindow(String what, ToplistHouse house, int... numbers) {
         Check.due("40 " + what, house::windowSize, numbers.length);
         for (int rank = 0; rank < numbers.length; rank++) {
@@ -34,17 +26,17 @@ public final class NumbersTest {
     }
 
     private static void window() {
-        hasWindow("nothing", pushed());
-        hasWindow("one", pushed(0), 0);
-        hasWindow("fewer than the width", pushed(3, 99, 3), 99, 3, 3);
-        hasWindow("as many as the width", pushed(1, 2, 3, 4, 5), 5, 4, 3, 2, 1);
-        hasWindow("more than the width", pushed(99, 98, 1, 7, 7, 1, 7), 7, 7, 7, 1, 1);
-        Check.due("42 nothing", () -> pushed().unlike(), 0);
-        Check.due("42 one", () -> pushed(0).unlike(), 1);
-        Check.due("42 all unlike", () -> pushed(1, 2, 3, 4, 5).unlike(), 5);
-        Check.due("42 some alike", () -> pushed(1, 2, 1, 2, 5).unlike(), 3);
-        Check.due("42 all alike", () -> pushed(6, 6, 6, 6).unlike(), 1);
-        Check.due("42 not those that left", () -> pushed(8, 9, 6, 6, 6, 6, 6).unlike(), 1);
+        hasWindow("nothing", Houses.pushed());
+        hasWindow("one", Houses.pushed(0), 0);
+        hasWindow("fewer than the width", Houses.pushed(3, 99, 3), 99, 3, 3);
+        hasWindow("as many as the width", Houses.pushed(1, 2, 3, 4, 5), 5, 4, 3, 2, 1);
+        hasWindow("more than the width", Houses.pushed(99, 98, 1, 7, 7, 1, 7), 7, 7, 7, 1, 1);
+        Check.due("42 nothing", () -> Houses.pushed().unlike(), 0);
+        Check.due("42 one", () -> Houses.pushed(0).unlike(), 1);
+        Check.due("42 all unlike", () -> Houses.pushed(1, 2, 3, 4, 5).unlike(), 5);
+        Check.due("42 some alike", () -> Houses.pushed(1, 2, 1, 2, 5).unlike(), 3);
+        Check.due("42 all alike", () -> Houses.pushed(6, 6, 6, 6).unlike(), 1);
+        Check.due("42 not those that left", () -> Houses.pushed(8, 9, 6, 6, 6, 6, 6).unlike(), 1);
     }
 
     private static void windowOfOneAndTen() {
@@ -62,7 +54,7 @@ public final class NumbersTest {
     }
 
     private static void counters() {
-        ToplistHouse house = pushed(1, 2, 1);
+        ToplistHouse house = Houses.pushed(1, 2, 1);
         Check.due("43 counts", () -> house.counted(1), 2);
         Check.due("43 counts another one", () -> house.counted(2), 1);
         Check.due("43 has not this one", () -> house.counted(3), 0);
@@ -79,7 +71,7 @@ public final class NumbersTest {
     }
 
     private static void counterThatIsFreedIsTakenAgain() {
-        ToplistHouse house = pushed(1, 1, 2, 3, 4, 4);
+        ToplistHouse house = Houses.pushed(1, 1, 2, 3, 4, 4);
         // 1: 2, 2: 1; by 3: 1: 1, and a counter without a number; 4 takes it.
         Check.due("43 the free counter", () -> house.counted(4), 2);
         Check.due("43 the other one stays", () -> house.counted(1), 1);
@@ -126,7 +118,7 @@ public final class NumbersTest {
     }
 
     private static void beginAnew() {
-        ToplistHouse house = pushed(1, 2, 3, 4, 5, 6, 7);
+        ToplistHouse house = Houses.pushed(1, 2, 3, 4, 5, 6, 7);
         Check.due("45 before", house::bound, 2);
         house.setWindow(5, 2);
         hasWindow("anew", house);
@@ -141,13 +133,13 @@ public final class NumbersTest {
         house.push(9);
         Check.due("43 both counters are free anew", () -> house.counted(8) * 10 + house.counted(9), 11);
         Check.due("45 both counters are free anew", house::bound, 0);
-        Check.due("44 the greatest number", () -> pushed(99, 0, 99).came(99), 2);
+        Check.due("44 the greatest number", () -> Houses.pushed(99, 0, 99).came(99), 2);
         house.undo();
         house.undo();
         house.undo();
         hasWindow("back", house, 7, 6, 5, 4, 3);
         Check.due("45 back", house::bound, 2);
-        ToplistHouse twice = pushed(6, 6, 5);
+        ToplistHouse twice = Houses.pushed(6, 6, 5);
         twice.setWindow(5, 2);
         twice.push(4);
         Check.due("43 counts from 0 anew", () -> twice.counted(4), 1);
@@ -170,7 +162,7 @@ public final class NumbersTest {
     }
 
     private static void wrongArguments() {
-        ToplistHouse house = pushed(4, 5);
+        ToplistHouse house = Houses.pushed(4, 5);
         for (int bad : new int[] {-1, 2, 5, 10, Integer.MIN_VALUE, Integer.MAX_VALUE}) {
             Check.refused("41 rank " + bad, house, () -> house.windowAt(bad), INDEX);
         }

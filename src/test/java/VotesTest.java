@@ -16,17 +16,6 @@ public final class VotesTest {
         Check.finish();
     }
 
-    /** A house with these orders in its rows, the first thing of an order with the greatest mark. */
-    private static ToplistHouse votes(int[]... orders) {
-        ToplistHouse house = Houses.empty();
-        for (int row = 0; row < orders.length; row++) {
-            for (int place = 0; place < orders[row].length; place++) {
-                house.put(row, orders[row][place], 90 - place);
-            }
-        }
-        return house;
-    }
-
     private static void newHouse() {
         ToplistHouse house = new ToplistHouse();
         Check.due("34", house::candidates, 5);
@@ -49,7 +38,7 @@ public final class VotesTest {
     private static void candidates() {
         ToplistHouse house = Houses.full();
         Check.due("34 at most 6", house::candidates, 6);
-        house = votes(new int[] {19, 18, 17, 16, 15, 14, 13, 2});
+        house = Houses.votes(new int[] {19, 18, 17, 16, 15, 14, 13, 2});
         ToplistHouse some = house;
         Check.due("34 8 known things", some::candidates, 6);
         Check.due("36 of the least numbers", some::winner, 17);
@@ -87,19 +76,20 @@ public final class VotesTest {
         Check.due("36 a single candidate", () -> Houses.of(4, 19, 0).winner(), 19);
         ToplistHouse empty = Houses.empty();
         Check.refused("36 no candidates", empty, empty::winner, NONE_SUCH);
-        ToplistHouse even = votes(new int[] {3, 5}, new int[] {5, 3});
+        ToplistHouse even = Houses.votes(new int[] {3, 5}, new int[] {5, 3});
         Check.refused("36 as many rows for both", even, even::winner, NONE_SUCH);
         even.put(2, 5, 0);
         Check.due("36 one row more", even::winner, 5);
-        ToplistHouse last = votes(new int[] {1, 0, 2}, new int[] {2, 1, 0}, new int[] {1, 2, 0});
+        ToplistHouse last = Houses.votes(new int[] {1, 0, 2}, new int[] {2, 1, 0}, new int[] {1, 2, 0});
         Check.due("36 beats all others", last::winner, 1);
     }
 
     private static void ring() {
-        Check.due("37 none", () -> votes(new int[] {0, 1, 2, 3, 4, 5}).ring(), ToplistHouse.NONE);
+        Check.due("37 none", () -> Houses.votes(new int[] {0, 1, 2, 3, 4, 5}).ring(), ToplistHouse.NONE);
         Check.due("37 empty", () -> Houses.empty().ring(), ToplistHouse.NONE);
-        Check.due("37 two that are even", () -> votes(new int[] {3, 5}, new int[] {5, 3}).ring(), ToplistHouse.NONE);
-        ToplistHouse three = votes(new int[] {9, 4, 7}, new int[] {4, 7, 9}, new int[] {7, 9, 4});
+        ToplistHouse even = Houses.votes(new int[] {3, 5}, new int[] {5, 3});
+        Check.due("37 two that are even", even::ring, ToplistHouse.NONE);
+        ToplistHouse three = Houses.votes(new int[] {9, 4, 7}, new int[] {4, 7, 9}, new int[] {7, 9, 4});
         Check.due("37 of three", three::ring, 3);
         three.put(3, 9, 1);
         three.put(4, 9, 1);
@@ -107,10 +97,11 @@ public final class VotesTest {
     }
 
     private static void longRings() {
-        isRing(4, votes(new int[] {0, 1, 2, 3}, new int[] {1, 2, 3, 0}, new int[] {2, 3, 0, 1},
+        isRing(4, Houses.votes(new int[] {0, 1, 2, 3}, new int[] {1, 2, 3, 0}, new int[] {2, 3, 0, 1},
                 new int[] {3, 0, 1, 2}));
-        isRing(5, votes(new int[] {0, 1}, new int[] {1, 2}, new int[] {2, 3}, new int[] {3, 4}, new int[] {4, 0}));
-        isRing(6, votes(new int[] {1, 2, 5}, new int[] {0, 1, 4}, new int[] {5, 0}, new int[] {2, 3, 4},
+        isRing(5, Houses.votes(new int[] {0, 1}, new int[] {1, 2}, new int[] {2, 3}, new int[] {3, 4},
+                new int[] {4, 0}));
+        isRing(6, Houses.votes(new int[] {1, 2, 5}, new int[] {0, 1, 4}, new int[] {5, 0}, new int[] {2, 3, 4},
                 new int[] {3, 4, 5}));
     }
 
@@ -132,10 +123,11 @@ public final class VotesTest {
         Check.refused("39 empty", empty, () -> empty.orderAt(0), INDEX);
         Check.due("38 a single one", () -> Houses.of(1, 8, 1).swaps(), 0);
         Check.due("39 a single one", () -> Houses.of(1, 8, 1).orderAt(0), 8);
-        Check.due("38 one row", () -> votes(new int[] {5, 3, 4, 0}).swaps(), 0);
-        hasOrder(votes(new int[] {5, 3, 4, 0}), 5, 3, 4, 0);
-        hasOrder(votes(new int[] {7, 3}, new int[] {7, 3}, new int[] {3, 7}), 7, 3);
-        Check.due("38 one row of three", () -> votes(new int[] {7, 3}, new int[] {7, 3}, new int[] {3, 7}).swaps(), 1);
+        Check.due("38 one row", () -> Houses.votes(new int[] {5, 3, 4, 0}).swaps(), 0);
+        hasOrder(Houses.votes(new int[] {5, 3, 4, 0}), 5, 3, 4, 0);
+        hasOrder(Houses.votes(new int[] {7, 3}, new int[] {7, 3}, new int[] {3, 7}), 7, 3);
+        Check.due("38 one row of three",
+                () -> Houses.votes(new int[] {7, 3}, new int[] {7, 3}, new int[] {3, 7}).swaps(), 1);
         ToplistHouse house = new ToplistHouse();
         for (int bad : new int[] {-1, 5, 6, 20, Integer.MIN_VALUE, Integer.MAX_VALUE}) {
             Check.refused("39 place " + bad, house, () -> house.orderAt(bad), INDEX);
@@ -143,12 +135,12 @@ public final class VotesTest {
     }
 
     private static void leastOrderOfSeveral() {
-        hasOrder(votes(new int[] {5, 3}, new int[] {3, 5}), 3, 5);
+        hasOrder(Houses.votes(new int[] {5, 3}, new int[] {3, 5}), 3, 5);
         // 4 7 9, 7 9 4 and 9 4 7 have 4 swaps each.
-        ToplistHouse three = votes(new int[] {9, 4, 7}, new int[] {7, 9, 4}, new int[] {4, 7, 9});
+        ToplistHouse three = Houses.votes(new int[] {9, 4, 7}, new int[] {7, 9, 4}, new int[] {4, 7, 9});
         Check.due("38 a ring", three::swaps, 4);
         hasOrder(three, 4, 7, 9);
-        ToplistHouse four = votes(new int[] {3, 0, 1, 2}, new int[] {1, 2, 3, 0}, new int[] {2, 3, 0, 1},
+        ToplistHouse four = Houses.votes(new int[] {3, 0, 1, 2}, new int[] {1, 2, 3, 0}, new int[] {2, 3, 0, 1},
                 new int[] {0, 1, 2, 3});
         Check.due("38 a ring of four", four::swaps, 10);
         hasOrder(four, 0, 1, 2, 3);

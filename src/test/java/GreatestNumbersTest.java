@@ -75,6 +75,8 @@ public final class GreatestNumbersTest {
         Check.due("28 items of the mark 0 are items", house::mergedCount, 100);
         Check.due("46 the least sum", () -> house.pairSum(4, 0, 0), 0);
         Check.due("46 the last pair", () -> house.pairSum(4, 0, 399), 0);
+        Check.due("47 the last pair", () -> house.pairPlace(4, 0, 399, false), 19);
+        Check.due("47 the last pair, second", () -> house.pairPlace(4, 0, 399, true), 19);
         Check.due("46 behind the last pair", () -> house.pairSum(4, 0, 400), INDEX);
         Check.due("50 the least mean", house::meanMark, 0.0);
         Check.due("51 full", house::fill, 1.0f);

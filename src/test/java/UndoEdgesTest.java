@@ -213,8 +213,14 @@ public final class UndoEdgesTest {
             Check.due("44 nothing came by, " + n, () -> house.came(n), 0);
         }
         Check.due("7 nothing came by", () -> house.setWindow(3, 2), 0);
-        Check.due("9 the second setWindow", house::undo, 6);
-        Check.due("9 the first one", house::undo, 5);
+        house.push(91);
+        house.push(92);
+        Check.due("43 both counters were free", () -> house.counted(91) * 10 + house.counted(92), 11);
+        Check.due("45 so none counted less", house::bound, 0);
+        Check.due("9 the second of two numbers", house::undo, 7);
+        Check.due("9 the first one", house::undo, 6);
+        Check.due("9 the second setWindow", house::undo, 5);
+        Check.due("9 the first setWindow", house::undo, 4);
         Check.due("9 all is back", () -> Look.at(house), before);
         Check.due("41 the window is back", () -> house.windowAt(0) * 100 + house.windowAt(1) * 10 + house.windowAt(2),
                 876);
